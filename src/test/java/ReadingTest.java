@@ -13,6 +13,7 @@ public final class ReadingTest {
         promise21WaitOf();
         promise22MeanWait();
         promise23Missed();
+        promise23OnlyOneIsIdle();
         promise24Now();
         check.end();
     }
@@ -202,6 +203,20 @@ public final class ReadingTest {
         x.undo();
         x.undo();
         check.due("undone", x.missed(), 1);
+    }
+
+    private static void promise23OnlyOneIsIdle() {
+        for (int idle = 0; idle < 8; idle++) {
+            IdleDispatcher x = Start.with(8, 1);
+            x.setUp(idle, false);
+            Start.submitTimes(x, 0, 20, 7);
+            check.due("all that are up were idle", x.missed(), 0);
+            x.submit(0, 20);
+            check.due("none is idle", x.missed(), 0);
+            x.setUp(idle, true);
+            int taken = x.submit(0, 20);
+            check.due("only " + idle + " is idle", x.missed(), taken == idle ? 0 : 1);
+        }
     }
 
     private static void promise24Now() {

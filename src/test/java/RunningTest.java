@@ -12,6 +12,7 @@ public final class RunningTest {
         promise9IdleQueue();
         promise9LeavesTheListOfAnyDispatcher();
         promise9StaleReports();
+        promise9AllServersAndDispatchers();
         promise10Refusals();
         promise10Finishes();
         promise10RegistersInOrder();
@@ -126,6 +127,19 @@ public final class RunningTest {
         x.setUp(1, true);
         check.due("after the report", Start.taken(x, 0, 9, 4), "1121");
         check.due("the report went to both", x.knownLength(1, 0), 4);
+    }
+
+    private static void promise9AllServersAndDispatchers() {
+        IdleDispatcher x = Start.with(8, 4, 3, 1, 2);
+        check.due("policy 4", Start.taken(x, 0, 1, 9), "012345670");
+        check.due("policy 1", Start.taken(x, 2, 1, 9), "012345670");
+        x.setUp(7, false);
+        check.due("policy 4 without 7", Start.taken(x, 0, 1, 7), "1234560");
+        x.tick(8);
+        // Server 0 had five jobs, the others three each.
+        check.due("idle again", Start.idleList(x, 0), "40");
+        check.due("idle again, but for 7, which is down", Start.idleList(x, 3), "3");
+        check.due("policy 3", Start.taken(x, 1, 1, 2), "15");
     }
 
     private static void promise10Refusals() {

@@ -10,6 +10,7 @@ public final class StateTest {
         promise25ReadingSavesNothing();
         promise25BringsEverythingBack();
         promise25GoesOnAfterUndo();
+        promise25ADetourLeavesNoTrace();
         promise26Digest();
         promise26DigestOfIdleListsAndTables();
         promise26CountsTheSavedStates();
@@ -123,6 +124,66 @@ public final class StateTest {
         x.addServer();
         check.due("length of the server that came again", x.length(2), 0);
         check.due("idle list", x.registeredAt(2), 0);
+    }
+
+    /** One of two equal objects goes astray and comes back: from then on both answer the same. */
+    private static void promise25ADetourLeavesNoTrace() {
+        String[] detours = {
+            "tick 30 0", "submit 0 7", "submit 1 3", "submit 2 1", "submit 3 9", "setUp 0 0", "setUp 3 1",
+            "setPolicy 1 4", "setJoinMode 0 0", "setReportPeriod 2 0", "setRandom 77 0", "addServer 0 0"};
+        for (String first : detours) {
+            for (String second : detours) {
+                IdleDispatcher straight = busy();
+                IdleDispatcher astray = busy();
+                perform(astray, first);
+                perform(astray, second);
+                perform(astray, "tick 3 0");
+                for (int i = 0; i < 3; i++) {
+                    astray.undo();
+                }
+                String where = " after " + first + " and " + second;
+                check.due("answers" + where, allAnswers(astray), allAnswers(straight));
+                for (String call : new String[] {"submit 0 2", "tick 9 0", "submit 3 4", "addServer 0 0", "tick 40 0"}) {
+                    check.due(call + where, perform(astray, call), perform(straight, call));
+                }
+                check.due("answers later" + where, allAnswers(astray), allAnswers(straight));
+                check.due("digest() later" + where, astray.digest(), straight.digest());
+            }
+        }
+    }
+
+    /** Queues of several jobs, one of them begun and one finished; server 3 is down, server 4 is idle. */
+    private static IdleDispatcher busy() {
+        IdleDispatcher x = Start.with(5, 0, 1, 4, 3);
+        x.setUp(4, false);
+        x.setReportPeriod(3);
+        Start.submitTimes(x, 1, 2, 7);
+        x.tick(3);
+        Start.submitTimes(x, 2, 5, 3);
+        x.setUp(3, false);
+        x.setUp(4, true);
+        return x;
+    }
+
+    private static String perform(IdleDispatcher x, String call) {
+        String[] words = call.split(" ");
+        int a = Integer.parseInt(words[1]);
+        int b = Integer.parseInt(words[2]);
+        return Check.answer(() -> Call.on(x, words[0], a, b));
+    }
+
+    private static String allAnswers(IdleDispatcher x) {
+        StringBuilder all = new StringBuilder();
+        for (String name : new String[] {
+            "length", "work", "registeredAt", "idleCount", "idleAt", "knownLength", "expectedLength",
+            "submitted", "finished", "serverOf", "waitOf", "meanWait", "missed", "now"}) {
+            for (int a = 0; a < 12; a++) {
+                for (int b = 0; b < 8; b++) {
+                    all.append(perform(x, name + " " + a + " " + b)).append(' ');
+                }
+            }
+        }
+        return all.toString();
     }
 
     private static void promise26Digest() {
