@@ -4,6 +4,12 @@ import java.util.concurrent.Callable;
 final class Check {
     private int wrong = 0;
     private int seen = 0;
+    private String test = "";
+
+    /** The test whose answers follow; it is named where one is not as due. */
+    void begin(String name) {
+        test = name + ": ";
+    }
 
     void due(String call, long got, long want) {
         note(call, got == want, got, want);
@@ -54,7 +60,7 @@ final class Check {
         seen++;
         if (!right) {
             wrong++;
-            System.out.println(call + " answered " + got + ", due is " + want);
+            System.out.println(test + call + " answered " + got + ", due is " + want);
         }
     }
 }
