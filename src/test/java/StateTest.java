@@ -142,11 +142,11 @@ public final class StateTest {
                     astray.undo();
                 }
                 String where = " after " + first + " and " + second;
-                check.due("answers" + where, allAnswers(astray), allAnswers(straight));
+                check.due("answers" + where, Readings.withoutDigest(astray), Readings.withoutDigest(straight));
                 for (String call : new String[] {"submit 0 2", "tick 9 0", "submit 3 4", "addServer 0 0", "tick 40 0"}) {
                     check.due(call + where, perform(astray, call), perform(straight, call));
                 }
-                check.due("answers later" + where, allAnswers(astray), allAnswers(straight));
+                check.due("answers later" + where, Readings.withoutDigest(astray), Readings.withoutDigest(straight));
                 check.due("digest() later" + where, astray.digest(), straight.digest());
             }
         }
@@ -170,20 +170,6 @@ public final class StateTest {
         int a = Integer.parseInt(words[1]);
         int b = Integer.parseInt(words[2]);
         return Check.answer(() -> Call.on(x, words[0], a, b));
-    }
-
-    private static String allAnswers(IdleDispatcher x) {
-        StringBuilder all = new StringBuilder();
-        for (String name : new String[] {
-            "length", "work", "registeredAt", "idleCount", "idleAt", "knownLength", "expectedLength",
-            "submitted", "finished", "serverOf", "waitOf", "meanWait", "missed", "now"}) {
-            for (int a = 0; a < 12; a++) {
-                for (int b = 0; b < 8; b++) {
-                    all.append(perform(x, name + " " + a + " " + b)).append(' ');
-                }
-            }
-        }
-        return all.toString();
     }
 
     private static void promise26Digest() {
