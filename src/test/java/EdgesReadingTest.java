@@ -717,6 +717,18 @@ public final class EdgesReadingTest {
         check.due("none is idle", x.missed(), 1);
     }
 
+    private static void promise23AnySingleServerThatIsIdleCounts() {
+        for (int idle = 0; idle < 8; idle++) {
+            IdleDispatcher x = Start.with(8, 1, 0);
+            x.setUp(idle, false);
+            Start.submitTimes(x, 0, 20, 7);
+            x.setUp(idle, true);
+            x.setRandom(Draws.stateBefore(8, (idle + 1) % 8));
+            x.submit(1, 20);
+            check.due("only " + idle + " is idle", x.missed(), 1);
+        }
+    }
+
     private static void promise23AnEmptyServerThatIsDownIsNotIdle() {
         IdleDispatcher x = Start.with(2, 1, 1);
         x.submit(0, 9);

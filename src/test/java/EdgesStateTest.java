@@ -192,21 +192,61 @@ public final class EdgesStateTest {
         return x;
     }
 
-    /** The calls are made and undone; then what the reading calls answer is as before. */
-    private static void comesBack(String... calls) {
+    /**
+     * A state in which nothing is as in a new object: finished jobs, jobs that came late and wait
+     * or have waited, a missed one, tables with reports and counts in them.
+     */
+    private static IdleDispatcher wellUsed() {
         IdleDispatcher x = busy();
-        String before = Readings.of(x);
+        x.setReportPeriod(3);
+        x.setRandom(4711);
+        x.submit(3, 6);
+        x.tick(3);
+        Start.submitTimes(x, 1, 4, 3);
+        x.submit(2, 1);
+        x.setUp(3, true);
+        x.tick(2);
+        Start.submitTimes(x, 1, 5, 3);
+        Start.submitTimes(x, 0, 5, 2);
+        return x;
+    }
+
+    private static void promise25TheStateThatComesBackIsAUsedOne() {
+        IdleDispatcher x = wellUsed();
+        check.due("finished()", x.finished() > 0, true);
+        check.due("jobs that wait", x.submitted() - x.finished() > 5, true);
+        check.due("meanWait()", x.meanWait() > 0.0, true);
+        check.due("missed()", x.missed() > 0, true);
+    }
+
+    /** The calls, three at most, are made and undone: then all is, and goes on, as if they had not been. */
+    private static void comesBack(String... calls) {
+        IdleDispatcher x = wellUsed();
+        IdleDispatcher straight = wellUsed();
         for (String call : calls) {
             check.due(call + " succeeds", perform(x, call).startsWith("throws."), false);
         }
-        check.due("the calls change something", Readings.of(x).equals(before), false);
+        check.due("the calls change something", x.digest() == straight.digest(), false);
         for (int i = 0; i < calls.length; i++) {
             x.undo();
         }
-        for (int i = 0; i < calls.length; i++) {
-            x.tick(0);
+        String where = " after " + String.join(", ", calls);
+        check.due("readings" + where, Readings.withoutDigest(x), Readings.withoutDigest(straight));
+        for (String later : new String[] {
+            "tick 1 0", "submit 0 2", "submit 1 3", "submit 2 4", "submit 3 5", "tick 4 0", "addServer 0 0", "tick 60 0"}) {
+            check.due(later + where, perform(x, later), perform(straight, later));
         }
-        check.due("readings", Readings.of(x), before);
+        check.due("readings later" + where, Readings.of(x), Readings.of(straight));
+    }
+
+    private static void promise25EverythingComesBackFromEachCall() {
+        for (String call : new String[] {
+            "addServer 0 0", "setPolicy 1 2", "setJoinMode 1 0", "setReportPeriod 2 0", "setRandom 9 0", "setUp 0 0",
+            "submit 0 4", "submit 1 4", "submit 2 4", "submit 3 4", "tick 1 0", "tick 50 0"}) {
+            comesBack(call);
+            comesBack("submit 1 7", call);
+            comesBack(call, "submit 3 7", "tick 9 0");
+        }
     }
 
     private static void promise25TheTimeComesBack() {
@@ -336,19 +376,21 @@ public final class EdgesStateTest {
     }
 
     private static void promise25SavedStatesAreNotTouchedByLaterCalls() {
-        IdleDispatcher x = busy();
-        String first = Readings.withoutDigest(x);
-        x.submit(2, 4);
-        String second = Readings.withoutDigest(x);
-        x.setUp(4, false);
-        String third = Readings.withoutDigest(x);
-        x.tick(30);
-        x.undo();
-        check.due("third", Readings.withoutDigest(x), third);
-        x.undo();
-        check.due("second", Readings.withoutDigest(x), second);
-        x.undo();
-        check.due("first", Readings.withoutDigest(x), first);
+        String[] calls = {"submit 2 4", "setUp 4 0", "tick 30 0"};
+        for (int kept = 0; kept < 3; kept++) {
+            IdleDispatcher x = busy();
+            IdleDispatcher straight = busy();
+            for (int i = 0; i < 3; i++) {
+                perform(x, calls[i]);
+                if (i < kept) {
+                    perform(straight, calls[i]);
+                }
+            }
+            for (int i = kept; i < 3; i++) {
+                x.undo();
+            }
+            check.due("readings with " + kept + " calls kept", Readings.withoutDigest(x), Readings.withoutDigest(straight));
+        }
     }
 
     private static String perform(IdleDispatcher x, String call) {
