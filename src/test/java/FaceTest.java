@@ -45,8 +45,9 @@ public final class FaceTest {
 
     private static final Check check = new Check();
 
-    public static void main(String[] args) throws IOException {
+    public static void main(String[] args) throws IOException, ReflectiveOperationException {
         faceIsTheDocuments();
+        noneIsAConstant();
         nothingElseIsSeen();
         noInnerMethodBearsAPublicName();
         textKeepsToTheLanguage();
@@ -60,26 +61,13 @@ public final class FaceTest {
         for (Constructor<?> made : c.getDeclaredConstructors()) {
             check.due("constructor", made.toString(), "public IdleDispatcher()");
         }
-        Set<String> found = new TreeSet<>();
-        for (Method m : c.getDeclaredMethods()) {
-            if (Modifier.isPublic(m.getModifiers())) {
-                found.add(described(m));
-            }
-        }
-        check.due("public methods", found.toString(), new TreeSet<>(FACE).toString());
+        check.due("public methods", Face.ofTheClass().toString(), new TreeSet<>(FACE).toString());
     }
 
-    private static String described(Method m) {
-        StringBuilder text = new StringBuilder();
-        text.append(m.getReturnType().getSimpleName()).append(' ').append(m.getName()).append('(');
-        for (Class<?> p : m.getParameterTypes()) {
-            text.append(text.charAt(text.length() - 1) == '(' ? "" : ",").append(p.getSimpleName());
-        }
-        text.append(')');
-        for (Class<?> e : m.getExceptionTypes()) {
-            text.append(' ').append(e.getSimpleName());
-        }
-        return text.toString();
+    private static void noneIsAConstant() throws ReflectiveOperationException {
+        Field none = IdleDispatcher.class.getDeclaredField("NONE");
+        check.due("NONE", none.toString(), "public static final int IdleDispatcher.NONE");
+        check.due("NONE", none.getInt(null), -1);
     }
 
     private static void nothingElseIsSeen() {

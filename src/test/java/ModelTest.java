@@ -30,9 +30,10 @@ public final class ModelTest {
         Random r = new Random(seed);
         IdleDispatcher x = new IdleDispatcher();
         Model m = new Model();
-        int submitShare = 2 + r.nextInt(7);
+        // Every tenth run submits nearly always, so that the limit of 200 jobs is met.
+        int submitShare = seed % 10 == 0 ? 13 : 2 + r.nextInt(7);
         int longestTick = seed % 3 == 0 ? 3 : seed % 3 == 1 ? 12 : 60;
-        int opening = r.nextInt(14);
+        int opening = seed % 10 == 0 ? 12 : r.nextInt(20);
         for (int i = 0; i < CALLS; i++) {
             String name = i < opening ? opening(r) : next(r, submitShare);
             int a = first(name, r, longestTick);
@@ -68,8 +69,8 @@ public final class ModelTest {
             case "setRandom": return r.nextInt(1000000);
             case "tick": return r.nextInt(longestTick + 1);
             case "setUp": case "length": case "work": case "registeredAt": return r.nextInt(8);
-            case "serverOf": case "waitOf": return r.nextInt(60);
-            default: return r.nextInt(3);
+            case "serverOf": case "waitOf": return r.nextInt(r.nextBoolean() ? 40 : 202);
+            default: return r.nextInt(r.nextBoolean() ? 2 : 4);
         }
     }
 
